@@ -352,9 +352,10 @@ public final class StableParty {
             return UNKNOWN;
         }
         int fewest = NONE;
-        for (int set = 0; set <= EVERY_LETTER; set++) {
+        int everybody = now.everybody();
+        for (int set = 0; set <= everybody; set++) {
             int many = Integer.bitCount(set);
-            if (now.hasAll(set) && (fewest == NONE || many < fewest) && one.isContentWith(set)) {
+            if ((fewest == NONE || many < fewest) && one.isContentWith(set)) {
                 fewest = many;
             }
         }
@@ -382,8 +383,8 @@ public final class StableParty {
         if (one == null) {
             return UNKNOWN;
         }
-        // No other limit of this guest lets a greater company, with a smaller fee, be stable. So the
-        // fee of this company is the least limit.
+        // No smaller limit lets a greater company, with a smaller fee, be stable: so the fee of this
+        // company is the least limit.
         int greatest = search.findGreatest(now, now.invitedGuests(), guest);
         return isIn(greatest, guest) ? now.feeOf(Integer.bitCount(greatest)) : NONE;
     }
@@ -683,7 +684,7 @@ public final class StableParty {
 
         private int countParts(int greatest) {
             int many = 0;
-            for (int set = 0; set <= EVERY_LETTER; set++) {
+            for (int set = 0; set <= greatest; set++) {
                 if (isPart(set, greatest) && isStable(set)) {
                     many++;
                 }
@@ -694,7 +695,7 @@ public final class StableParty {
         private int smallestPart(int greatest) {
             int smallest = NONE;
             int fewest = MOST_GUESTS + 1;
-            for (int set = 1; set <= EVERY_LETTER; set++) {
+            for (int set = 1; set <= greatest; set++) {
                 int many = Integer.bitCount(set);
                 if (isPart(set, greatest) && many < fewest && isStable(set)) {
                     smallest = set;
@@ -707,7 +708,7 @@ public final class StableParty {
         /** Of the stable companies that find places, that with the most guests, then weights. */
         private int bestPart(int greatest) {
             int best = 0;
-            for (int set = 1; set <= EVERY_LETTER; set++) {
+            for (int set = 1; set <= greatest; set++) {
                 if (isPart(set, greatest) && Integer.bitCount(set) <= settings[PLACES]
                         && isBetter(set, best) && isStable(set)) {
                     best = set;
@@ -867,7 +868,7 @@ public final class StableParty {
 
     /** Reads a text as a condition, character by character, and keeps its steps and letters. */
     private static final class Reader {
-        // What may come next. Only behind a whole atom may the text end.
+        // What may come next. From BEHIND_ATOM on an atom is whole, so the text may end there.
         private static final int ATOM = 0;
         private static final int NUMBER = 1;
         private static final int COLON = 2;

@@ -133,6 +133,19 @@ public final class HappeningsTest {
         checks.due("b has no seat", x.guest(1, 7), NONE);
         checks.due("a can cancel", x.cancel(0), 1);
         checks.due("cancellations then", x.count(12), 2);
+
+        StableParty y = Checks.partyOf(2);
+        Checks.condition(y, 1, "a");
+        y.fix();
+        y.cancel(0);
+        y.dissolve();
+        y.set(0, 1000);
+        checks.due("fix for less", y.fix(), 2000);
+        y.cancel(0);
+        checks.due("what b got back so far", y.guest(1, 6), 2750 + 500);
+        checks.due("what all got back so far", y.count(10), 3250);
+        checks.due("followers so far", y.count(13), 2);
+        checks.due("cancellations so far", y.count(12), 2);
     }
 
     /** Promise 10. */

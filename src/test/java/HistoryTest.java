@@ -11,6 +11,7 @@ public final class HistoryTest {
         undoOfAll();
         keep();
         restore();
+        feeIsRestored();
         snapshotIsNoState();
         whatIsNoAct();
         whatIsAnAct();
@@ -128,6 +129,28 @@ public final class HistoryTest {
         x.cancel(1);
         checks.due("it stays unchanged", x.restore(), 2);
         checks.due("all are there", x.company(3), 3);
+    }
+
+    /** Half of the fee that was paid is given back, also if another one was paid in the meantime. */
+    private static void feeIsRestored() {
+        StableParty x = Checks.partyOf(2);
+        Checks.condition(x, 1, "a");
+        x.fix();
+        x.keep();
+        x.dissolve();
+        x.set(0, 0);
+        x.fix();
+        x.undo();
+        x.undo();
+        x.undo();
+        x.cancel(0);
+        checks.due("half of the undone fee", x.guest(1, 6), 2750);
+        x.dissolve();
+        x.set(0, 0);
+        x.fix();
+        x.restore();
+        x.cancel(0);
+        checks.due("half of the restored fee", x.guest(1, 6), 2750);
     }
 
     private static void snapshotIsNoState() {

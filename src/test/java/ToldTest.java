@@ -125,7 +125,19 @@ public final class ToldTest {
         metBy("((a|b)&(c|d))&e", 26, 1);
         metBy("((a|b)&(c|d))&e", 19, 0);
         metBy("((a|b)&(c|d))&e", 10, 0);
+        metBy("a|b|c", 1, 1);
+        metBy("a|b|c", 2, 1);
+        metBy("a|b|c", 8, 0);
+        metBy("a|(b)|c", 1, 1);
         metBy("a|(b)|c", 2, 1);
+        metBy("a|(b)", 1, 1);
+        metBy("a|(b|(c))", 1, 1);
+        metBy("a|(b|(c))", 2, 1);
+        metBy("(a|b)|c&(d)", 1, 1);
+        metBy("d&(a|(b))", 1, 0);
+        metBy("d&(a|(b))", 9, 1);
+        metBy("(a|(b&c))&(d|(e&f))", 8, 0);
+        metBy("(a|(b&c))&(d|(e&f))", 49, 1);
         metBy("a|(b|c&(d|e))", 20, 1);
         metBy("a|(b|c&(d|e))", 4, 0);
         metBy("(((((((a&b|c)&d|e)&f|g)&h|i)&j|k)&l|a)&b|c)", 4, 1);
@@ -244,6 +256,12 @@ public final class ToldTest {
         checks.due("of one place, the only one", y.company(1), 4);
         Checks.condition(y, 2, "a");
         checks.due("none finds places", y.company(1), 0);
+
+        StableParty z = new StableParty();
+        z.addGuest(99999, 9);
+        z.addGuest(99999, 8);
+        z.set(2, 1);
+        checks.due("the first one", z.company(1), 1);
     }
 
     private static void smallestCompany() {
@@ -265,6 +283,12 @@ public final class ToldTest {
         x.invite(3, true);
         x.set(2, 1);
         checks.due("places do not count", x.company(2), 12);
+        StableParty y = Checks.partyOf(12);
+        for (int guest = 0; guest < 12; guest++) {
+            Checks.condition(y, guest, "#12");
+        }
+        checks.due("all twelve", y.company(2), 4095);
+        checks.due("all twelve and none", y.companies(), 2);
     }
 
     private static void fixedCompany() {
