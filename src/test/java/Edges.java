@@ -180,6 +180,14 @@ final class Edges {
         return x;
     }
 
+    /** The same party, on this day. */
+    static StableParty onDay(int day, StableParty x) {
+        for (int left = day - x.count(0); left > 0; left -= 60) {
+            x.pass(Math.min(60, left));
+        }
+        return x;
+    }
+
     static StableParty full() {
         return Checks.partyOf(12);
     }

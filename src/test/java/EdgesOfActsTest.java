@@ -64,6 +64,8 @@ public final class EdgesOfActsTest {
         edges.due("no weight", new StableParty().addGuest(1, 0), BAD_VALUE);
         edges.acts("the least weight", Edges::openWithRoom, x -> x.addGuest(1, 1), 3);
         edges.acts("the greatest weight", Edges::openWithRoom, x -> x.addGuest(1, 9), 3);
+        edges.leavesAll("far out of range, both", Edges::openWithRoom,
+                x -> x.addGuest(Edges.LEAST_INT, Edges.GREATEST_INT), BAD_VALUE);
         edges.sentence("Promise 2", "Adds a guest, who is invited, with the condition \"*\".");
         StableParty x = Edges.open();
         x.addGuest(0, 9);
@@ -72,6 +74,7 @@ public final class EdgesOfActsTest {
             edges.due("guest(3, " + what + ")", x.guest(3, what), due[what]);
         }
         edges.due("met by nobody", x.met(3, 0), 1);
+        addGuestInAnotherPlace();
         edges.sentence("Promise 2",
                 "Returns the number of the guest; BAD_VALUE; NOT_POSSIBLE if a company is fixed; FULL if there are 12.");
         edges.acts("the first one", StableParty::new, y -> y.addGuest(1, 1), 0);
@@ -87,6 +90,37 @@ public final class EdgesOfActsTest {
         edges.leavesAll("fixed and full", () -> Edges.fixed(Edges.full()), y -> y.addGuest(1, 1), NOT_POSSIBLE);
         edges.leavesAll("bad and full", Edges::full, y -> y.addGuest(-1, 1), BAD_VALUE);
         edges.leavesAll("bad and fixed", Edges::fixedParty, y -> y.addGuest(1, 0), BAD_VALUE);
+    }
+
+    /** A state with fewer guests is restored, and one is added with a number that another one had. */
+    private void addGuestInAnotherPlace() {
+        StableParty x = Checks.partyOf(1);
+        x.keep();
+        x.addGuest(99999, 5);
+        Checks.condition(x, 1, "a&b");
+        x.fix();
+        x.cancel(0);
+        x.dissolve();
+        x.pass(11);
+        x.setLimit(1, 7);
+        x.invite(1, false);
+        x.restore();
+        edges.due("no guest 1", x.guest(1, 0), UNKNOWN);
+        edges.due("the number again", x.addGuest(4, 3), 1);
+        int[] due = {4, 3, 1, 0, 0, 0, 0, NONE};
+        for (int what = 0; what < due.length; what++) {
+            edges.due("a new guest: guest(1, " + what + ")", x.guest(1, what), due[what]);
+        }
+        edges.due("a new guest: met by nobody", x.met(1, 0), 1);
+        edges.due("a new guest: needs", x.needs(1), 0);
+        edges.due("nothing was paid", x.count(9), 0);
+        edges.due("nothing was given back", x.count(10), 0);
+        edges.due("nothing is charged", x.count(14), 0);
+        x.undo();
+        edges.due("undone", x.guest(1, 0), UNKNOWN);
+        x.undo();
+        edges.due("the one who was there before", x.guest(1, 0), 7);
+        edges.due("with the condition", x.met(1, 2), 0);
     }
 
     private static StableParty withText(StableParty x, String text) {
@@ -178,6 +212,8 @@ public final class EdgesOfActsTest {
         edges.leavesAll("fixed and so already", Edges::fixedParty, y -> y.setLimit(2, 8000), NOT_POSSIBLE);
         edges.leavesAll("bad and fixed", Edges::fixedParty, y -> y.setLimit(2, -1), BAD_VALUE);
         edges.leavesAll("nobody and bad", Edges::open, y -> y.setLimit(3, -1), UNKNOWN);
+        edges.leavesAll("far out of range, both", Edges::open,
+                y -> y.setLimit(Edges.GREATEST_INT, Edges.LEAST_INT), UNKNOWN);
         edges.leavesAll("nobody and fixed", Edges::fixedParty, y -> y.setLimit(3, 1), UNKNOWN);
     }
 
@@ -205,6 +241,8 @@ public final class EdgesOfActsTest {
         edges.leavesAll("fixed and so already", Edges::fixedParty, y -> y.setWeight(2, 4), NOT_POSSIBLE);
         edges.leavesAll("bad and fixed", Edges::fixedParty, y -> y.setWeight(2, 10), BAD_VALUE);
         edges.leavesAll("nobody and bad", Edges::open, y -> y.setWeight(3, 0), UNKNOWN);
+        edges.leavesAll("far out of range, both", Edges::open,
+                y -> y.setWeight(Edges.LEAST_INT, Edges.GREATEST_INT), UNKNOWN);
         edges.leavesAll("nobody and fixed", Edges::fixedParty, y -> y.setWeight(3, 5), UNKNOWN);
     }
 
@@ -260,6 +298,12 @@ public final class EdgesOfActsTest {
                     NOT_POSSIBLE);
             edges.leavesAll("bad and fixed", Edges::fixedParty, y -> y.set(setting, atMost + 1), BAD_VALUE);
         }
+        edges.sentence("Promise 7",
+                "Returns the previous one; BAD_VALUE; NOT_POSSIBLE if a company is fixed; NONE if it is so already.");
+        edges.due("the first one", new StableParty().set(3, 999), 10);
+        edges.due("a value that is so already, of a bad what", new StableParty().set(5, 0), BAD_VALUE);
+        edges.leavesAll("far out of range, both", Edges::openWithRoom,
+                x -> x.set(Edges.LEAST_INT, Edges.GREATEST_INT), BAD_VALUE);
         edges.sentence("Promise 7", "`what`: 0 for the hall");
         edges.refusesBeyond("what", 0, 4, Edges::openWithRoom, (x, what) -> x.set(what, 5), BAD_VALUE);
         edges.leavesAll("a bad what and fixed", Edges::fixedParty, x -> x.set(-1, 1), BAD_VALUE);
@@ -267,11 +311,7 @@ public final class EdgesOfActsTest {
     }
 
     private static StableParty onDay(int day) {
-        StableParty x = Edges.party("*", "a");
-        while (x.count(0) < day) {
-            x.pass(Math.min(60, day - x.count(0)));
-        }
-        return x;
+        return Edges.onDay(day, Edges.party("*", "a"));
     }
 
     private static StableParty earlyWithRoom() {
@@ -287,6 +327,12 @@ public final class EdgesOfActsTest {
         edges.leavesAll("no day", Edges::openWithRoom, x -> x.pass(0), BAD_VALUE);
         edges.acts("the least", EdgesOfActsTest::earlyWithRoom, x -> x.pass(1), 1);
         edges.acts("the greatest", EdgesOfActsTest::earlyWithRoom, x -> x.pass(60), 60);
+        edges.sentence("Promise 8", "Returns the day then; BAD_VALUE");
+        StableParty y = new StableParty();
+        edges.due("the first day", y.pass(1), 1);
+        edges.due("the day 61", y.pass(60), 61);
+        edges.due("the day 62", y.pass(1), 62);
+        edges.due("is told", y.count(0), 62);
         edges.sentence("Promise 8", "NOT_POSSIBLE if it would become more than 999");
         edges.due("just 999, by one day", onDay(998).pass(1), 999);
         edges.due("just 999, by 60 days", onDay(939).pass(60), 999);

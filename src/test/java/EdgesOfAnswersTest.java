@@ -56,10 +56,35 @@ public final class EdgesOfAnswersTest {
                 edges.due("guest(" + guest + ", " + what + ")", x.guest(guest, what), due[guest][what]);
             }
         }
+        guestNumbers();
         guestInvited();
         guestLetters();
         guestPaid();
         guestSeat();
+    }
+
+    private void guestNumbers() {
+        edges.sentence("Promise 17", "0 for the limit, 1 for the weight");
+        StableParty x = new StableParty();
+        x.addGuest(0, 9);
+        x.addGuest(99999, 1);
+        edges.due("the least limit", x.guest(0, 0), 0);
+        edges.due("the greatest weight", x.guest(0, 1), 9);
+        edges.due("the greatest limit", x.guest(1, 0), 99999);
+        edges.due("the least weight", x.guest(1, 1), 1);
+        edges.sentence("Promise 17", "3 for the charges");
+        x.set(3, 0);
+        x.set(4, 9999);
+        edges.due("no charges", x.guest(0, 3), 0);
+        x.pass(1);
+        for (int times = 1; times <= 5; times++) {
+            x.setLimit(0, times);
+            edges.due("charged so often: " + times, x.guest(0, 3), times * 9999);
+        }
+        edges.due("another one is not charged", x.guest(1, 3), 0);
+        edges.sentence("Promise 17", "Returns the number; UNKNOWN; BAD_VALUE.");
+        edges.due("no guest goes before a bad what", x.guest(2, -1), UNKNOWN);
+        edges.due("a bad what", x.guest(1, -1), BAD_VALUE);
     }
 
     private void guestInvited() {
@@ -119,6 +144,8 @@ public final class EdgesOfAnswersTest {
         edges.sentence("Promise 18", "`guest`: a guest");
         edges.refusesBeyond("guest", 0, 2, Edges::openWithRoom, (x, guest) -> x.met(guest, 0), UNKNOWN);
         edges.leavesAll("no guest at all", StableParty::new, x -> x.met(0, 0), UNKNOWN);
+        edges.leavesAll("far out of range, both", Edges::openWithRoom,
+                x -> x.met(Edges.LEAST_INT, Edges.LEAST_INT), UNKNOWN);
         edges.sentence("Promise 18", "`set`: a set of guests, 0 to 4095");
         edges.refusesBeyond("set of twelve", 0, ALL, Edges::full, (x, set) -> x.met(0, set), BAD_VALUE);
         edges.due("the least", Edges.full().met(11, 0), 1);
@@ -261,7 +288,11 @@ public final class EdgesOfAnswersTest {
         edges.refusesBeyond("guest", 0, 2, Edges::openWithRoom, (x, guest) -> x.why(guest, 0), UNKNOWN);
         edges.refusesBeyond("guest of twelve", 0, 11, Edges::full, (x, guest) -> x.why(guest, 0), UNKNOWN);
         edges.leavesAll("no guest at all", StableParty::new, x -> x.why(0, 0), UNKNOWN);
+        edges.sentence("Promise 23", "Returns the number; UNKNOWN; BAD_VALUE; NONE for 1 to 4");
         edges.leavesAll("no guest and a bad what", Edges::openWithRoom, x -> x.why(3, 5), UNKNOWN);
+        edges.leavesAll("far out of range, both", Edges::openWithRoom,
+                x -> x.why(Edges.GREATEST_INT, Edges.LEAST_INT), UNKNOWN);
+        edges.leavesAll("a bad what of one who comes", Edges::openWithRoom, x -> x.why(0, 5), BAD_VALUE);
         edges.sentence("Promise 23", "`what`: 0 for the reason (0 if the guest does not stay away)");
         edges.refusesBeyond("what of one who comes", 0, 4, Edges::openWithRoom, (x, what) -> x.why(0, what), BAD_VALUE);
         edges.refusesBeyond("what of one who is not invited", 0, 4, Edges::openWithRoom,
@@ -358,6 +389,8 @@ public final class EdgesOfAnswersTest {
         needsOf("9:abcdefghi", 12, 9);
         needsOf("9:abcdefgh", 12, NONE);
         needsOf("2:a", 12, NONE);
+        needsOf("a&b|c", 3, 1);
+        needsOf("a&b&c|d&e|f", 6, 1);
         needsOf("2:a|#12", 12, 12);
         needsOf("2:a|#12", 11, NONE);
         edges.leavesAll("not even all", () -> Edges.party("2:aa"), x -> x.needs(0), NONE);
@@ -456,6 +489,7 @@ public final class EdgesOfAnswersTest {
         StableParty x = Edges.fixed(Edges.chain());
         edges.due("guests", x.count(1), 12);
         edges.due("invited", x.count(2), 12);
+        countSettings();
         edges.sentence("Promise 29", "8 for whether a company is fixed (1, otherwise 0)");
         edges.due("none, as nobody comes", x.count(8), 0);
         edges.due("one", Edges.fixedParty().count(8), 1);
@@ -476,6 +510,34 @@ public final class EdgesOfAnswersTest {
             y.pass(1);
             edges.due("states", y.count(15), Math.min(i, 4));
         }
+    }
+
+    private void countSettings() {
+        edges.sentence("Promise 29", "0 for the day, 1 for guests, 2 for those who are invited");
+        StableParty x = Checks.partyOf(12);
+        for (int guest = 0; guest < 12; guest++) {
+            edges.due("invited", x.count(2), 12 - guest);
+            x.invite(guest, false);
+        }
+        edges.due("nobody is invited", x.count(2), 0);
+        edges.due("but all are guests", x.count(1), 12);
+        x.pass(60);
+        edges.due("the day", x.count(0), 60);
+        edges.sentence("Promise 29", "3 for the hall, 4 for the head, 5 for the places, 6 for the closing, 7 for the "
+                + "late charge");
+        int[] least = {0, 0, 1, 0, 0};
+        int[] most = {99999, 9999, 12, 999, 9999};
+        for (int what = 0; what < 5; what++) {
+            x.set(what, most[what]);
+        }
+        for (int what = 0; what < 5; what++) {
+            edges.due("the greatest: " + what, x.count(3 + what), most[what]);
+            x.set(what, least[what]);
+            edges.due("the least: " + what, x.count(3 + what), least[what]);
+        }
+        edges.sentence("Promise 29", "Returns the number; BAD_VALUE.");
+        edges.due("beyond the last one", x.count(17), BAD_VALUE);
+        edges.due("beyond the first one", x.count(-1), BAD_VALUE);
     }
 
     private void countSoFar() {

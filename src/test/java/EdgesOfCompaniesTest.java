@@ -201,6 +201,7 @@ public final class EdgesOfCompaniesTest {
         allInvitedInTheFirstRound();
         allAtOnceByConditions();
         allAtOnceByFees();
+        othersInTheNextRound();
         theFirstRoundWithoutAnyone();
     }
 
@@ -263,6 +264,18 @@ public final class EdgesOfCompaniesTest {
         edges.due("the fee of the round's number", y.company(0), 3);
         Checks.condition(y, 0, "2:b");
         edges.due("not of the next one's", y.why(1, 1), 2);
+    }
+
+    private void othersInTheNextRound() {
+        edges.sentence("STABLE COMPANIES", "the next round has the others");
+        StableParty x = Edges.party("2:a", "#4", "a|d", "#2&d", "*");
+        edges.due("a alone in the round 1", x.why(0, 1), 1);
+        edges.due("the others are four: b comes", x.why(1, 0), 0);
+        edges.due("c has d", x.why(2, 0), 0);
+        edges.due("four come", x.company(0), 30);
+        x.invite(4, false);
+        edges.due("the others are three: b", x.why(1, 1), 2);
+        edges.due("c and d come", x.company(0), 12);
     }
 
     private void theFirstRoundWithoutAnyone() {

@@ -351,6 +351,11 @@ public final class EdgesOfConditionsTest {
         met("(c|d)&(e|f)", sets(20, 24, 36, 40), sets(12, 48));
         met("(c&d)|e", sets(12, 16), sets(4, 8));
         met("((c))", sets(4), sets(0));
+        met("a|(b)&c", sets(1, 6), sets(2, 4));
+        met("a&(b)|c", sets(3, 4), sets(1, 2));
+        met("(a|(b)&c)&d", sets(9, 14), sets(8, 10, 12, 7));
+        met("a|(b|(c)&d)&e", sets(1, 18, 28), sets(2, 12, 20, 24));
+        met("a&(b|(c&d|(e)))", sets(3, 13, 17), sets(1, 5, 9, 30));
         met("(*)", sets(0), sets());
         met("(#12)", sets(ALL), sets(ALL - 1));
         met("(2:ab)", sets(3), sets(1));
@@ -366,6 +371,12 @@ public final class EdgesOfConditionsTest {
         fault("(2:)", 3);
         fault("(2)", 2);
         fault("[a]", 0);
+        fault("(#1)2", 4);
+        fault("(#1)0", 4);
+        fault("(2:a)b", 5);
+        fault("(a)1:b", 3);
+        fault("(a)*", 3);
+        fault("(a)#1", 3);
     }
 
     private void greaterSetsMeetMore() {
@@ -395,6 +406,17 @@ public final class EdgesOfConditionsTest {
         met("((((((((a)|(b))))))))", sets(1, 2), sets(0));
         fault("((((((((a)|((b)))))))))", 12);
         fault("((((((((a|(b)))))))))", 10);
+        StableParty x = Edges.full();
+        edges.due("a text that ends with 8 open", Checks.condition(x, 0, "(((((((("), -108);
+        edges.due("leaves none open for the next one", Checks.condition(x, 0, "((((((((a))))))))"), 1);
+        edges.due("a fault with 8 open", Checks.condition(x, 0, "((((((((?"), -108);
+        edges.due("leaves none open either", Checks.condition(x, 0, "a"), 1);
+        edges.due("so none can be closed", Checks.condition(x, 0, "a)"), -101);
+        edges.due("a fault within a group", Checks.condition(x, 0, "(3:ab?"), -105);
+        edges.due("does not go on in the next one", Checks.condition(x, 0, "c"), 1);
+        edges.due("of which only that counts", x.guest(0, 4), 4);
+        edges.due("met by that", x.met(0, 4), 1);
+        edges.due("not by another", x.met(0, 3), 0);
         met("((((((((a)&b)|c)&d)|e)&f)|g)&h)", sets(128 + 64, 128 + 32 + 16, 128 + 32 + 8 + 4,
                 128 + 32 + 8 + 3), sets(127, 128 + 32 + 8 + 1, 128 + 32 + 8 + 2, 128 + 32 + 4, 128 + 16));
     }

@@ -35,11 +35,7 @@ public final class EdgesOfHappeningsTest {
     }
 
     private static StableParty onDay(int day) {
-        StableParty x = Edges.party("*", "a", "*");
-        while (x.count(0) < day) {
-            x.pass(Math.min(60, day - x.count(0)));
-        }
-        return x;
+        return Edges.onDay(day, Edges.party("*", "a", "*"));
     }
 
     private void dayAtFirst() {

@@ -191,9 +191,31 @@ public final class EdgesOfHistoryTest {
         edges.due("undo leaves the snapshot", x.restore(), 2);
         edges.due("a full text stays", lengthAfterUndo(60), 60);
         edges.due("an empty text stays", lengthAfterUndo(0), 0);
+        feeThatWasPaid();
         List<Integer> kept = Story.of(() -> keptAndRestored(false));
         List<Integer> restored = Story.of(() -> keptAndRestored(true));
         edges.due("all else is restored", restored.equals(kept) ? 1 : 0, 1);
+    }
+
+    /** Half of the fee is of that which was paid in the state that is there again. */
+    private void feeThatWasPaid() {
+        StableParty x = Edges.fixed(Edges.party("*", "a"));
+        x.keep();
+        x.dissolve();
+        x.set(0, 0);
+        x.fix();
+        x.restore();
+        x.cancel(0);
+        edges.due("the fee that was paid is restored", x.guest(1, 6), 2750);
+        StableParty y = Edges.fixed(Edges.party("*", "a"));
+        y.dissolve();
+        y.set(0, 0);
+        y.fix();
+        y.undo();
+        y.undo();
+        y.undo();
+        y.cancel(0);
+        edges.due("the fee that was paid is back after undo", y.guest(1, 6), 2750);
     }
 
     private static int lengthAfterUndo(int length) {
@@ -328,11 +350,7 @@ public final class EdgesOfHistoryTest {
     }
 
     private static StableParty onTheLastDay() {
-        StableParty x = Edges.open();
-        while (x.count(0) < 999) {
-            x.pass(Math.min(60, 999 - x.count(0)));
-        }
-        return x;
+        return Edges.onDay(999, Edges.open());
     }
 
     private static StableParty withoutHistory() {
