@@ -5,6 +5,8 @@
 public final class WalkTest {
     private static final int WALKS = 260;
     private static final int CALLS = 512;
+    // A text is emptied, typed with one character more than it has room for, and given to a guest.
+    private static final int MOST_CALLS_AT_ONCE = 63;
     private static final Checks checks = new Checks("WalkTest");
 
     private final StableParty party = new StableParty();
@@ -38,7 +40,7 @@ public final class WalkTest {
     }
 
     private void walk() {
-        while (calls < CALLS - 61) {
+        while (calls + MOST_CALLS_AT_ONCE <= CALLS) {
             int kind = draw(20);
             if (kind < 3) {
                 write();
@@ -52,6 +54,8 @@ public final class WalkTest {
                 ask();
             }
         }
+        // What an object answers after so many calls is free.
+        checks.due("walk " + number + ": whether it has too many calls", calls > CALLS ? 1 : 0, 0);
     }
 
     /** A guest, or sometimes a number that is nearly one. */
